@@ -20,7 +20,26 @@ public final class ModelTest {
         for (int run = 0; run < RUNS; run++) {
             new ModelTest(run).go();
         }
+        allOfThree();
         checks.end();
+    }
+
+    // Every graph of three nodes that go straight on, fork or end.
+    private static void allOfThree() {
+        String[] nodes = {"e", "n0", "n1", "n2", "f00", "f01", "f02", "f10", "f11", "f12", "f20", "f21", "f22"};
+        int run = RUNS;
+        for (String zero : nodes) {
+            for (String one : nodes) {
+                for (String two : nodes) {
+                    ModelTest test = new ModelTest(run);
+                    test.readGraph(zero + "," + one + "," + two);
+                    test.due("mend(1)", test.fold.mend(1), test.model.mend(1));
+                    test.due("walk(" + run + ")", test.fold.walk(run), test.model.walk(run));
+                    test.due("digest()", test.fold.digest(), test.model.digest());
+                    run++;
+                }
+            }
+        }
     }
 
     private void due(String call, long got, long want) {

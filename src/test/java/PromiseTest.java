@@ -201,6 +201,7 @@ public final class PromiseTest {
         due("nothing seen", x.count(8), 0);
         due("all sorts", x.node(0, 8), 31);
         due("no image", x.restore(), STATE);
+        due("firsts anew", x.node(0, 1), 0);
         due("seconds anew", x.node(0, 2), 0);
         due("signs anew", x.fold(0), 1);
         due("mend() was told", x.count(11), 1);
@@ -245,6 +246,11 @@ public final class PromiseTest {
         FlowFold bad = Checks.read(BAD);
         dueNodes(bad, 4, NONE, 0, 0);
         dueNodes(bad, 7, 3, 1, 1);
+        // 4 stands last, and only by its way to 2 is 1 on no more all ways to 2 and 3.
+        FlowFold late = Checks.read("f14,n2,f43,e,n2");
+        dueNodes(late, 3, 0, 1, 2, 3, 4);
+        dueNodes(late, 4, NONE, 0, 0, 2, 0);
+        dueNodes(late, 7, 5, 1, 2, 1, 1);
         // A way from an unreached node is none: 2 leads to 1 but is never come to.
         FlowFold lone = Checks.read("n1,e,n1");
         dueNodes(lone, 4, NONE, 0, NONE);
@@ -430,6 +436,10 @@ public final class PromiseTest {
         due("a flip", x.walk(1), 4);
         dueVisits(x, 0, 1, 0, 2);
         due("begins anew", x.walk(1), 4);
+        FlowFold odd = Checks.read("x12,e,e");
+        due("one visit", odd.walk(0), 2);
+        due("one visit anew", odd.walk(0), 2);
+        dueVisits(odd, 0, 1);
         FlowFold y = Checks.read("t12,n0,e");
         due("a third", y.walk(1), 6);
         dueVisits(y, 0, 1, 0, 1, 0, 2);
@@ -471,6 +481,21 @@ public final class PromiseTest {
             204, 203, 0, 1, 600, 400, 601, 401, 400, 2, 600, 400, 601, 401, 401, 301, 3, 600, 301, 4);
         // The merge 3 is the head of a loop: its block is closed, then its loop opened.
         dueSigns("f12,n3,n3,x34,e", 203, 0, 1, 600, 400, 2, 600, 401, 301, 103, 3, 500, 400, 4, 401, 300);
+        // Three blocks in a loop; the ways out lead past one and two of them.
+        dueSigns("f12,f34,f45,n6,f67,n6,f70,e",
+            100, 207, 206, 204, 0, 1, 3, 601, 400, 600, 401, 400, 2, 600, 400, 5, 601, 401, 401,
+            301, 4, 600, 400, 601, 401, 301, 6, 600, 400, 501, 401, 301, 7, 300);
+        // The longest chain, each the only vassal of the one ahead of it, and each a head.
+        dueSigns("n1,n2,n3,n4,n5,n6,n7,e", 0, 1, 2, 3, 4, 5, 6, 7);
+        dueSigns("f10,f21,f32,f43,f54,f65,f76,n7",
+            100, 0, 101, 1, 102, 2, 103, 3, 104, 4, 105, 5, 106, 6, 107, 7, 500, 300,
+            400, 500, 401, 300, 400, 500, 401, 300, 400, 500, 401, 300, 400, 500, 401, 300,
+            400, 500, 401, 300, 400, 500, 401, 300, 400, 500, 401, 300);
+        // Each the merge of the one ahead of it.
+        dueSigns("f11,f22,f33,f44,f55,f66,f77,e",
+            201, 0, 600, 400, 600, 401, 301, 202, 1, 600, 400, 600, 401, 301, 203, 2, 600, 400, 600, 401, 301,
+            204, 3, 600, 400, 600, 401, 301, 205, 4, 600, 400, 600, 401, 301, 206, 5, 600, 400, 600, 401, 301,
+            207, 6, 600, 400, 600, 401, 301, 7);
         FlowFold x = Checks.read("n0");
         due("sign(-1)", x.sign(-1), UNKNOWN);
         due("sign(LOW)", x.sign(LOW), UNKNOWN);
@@ -490,8 +515,20 @@ public final class PromiseTest {
         dueFold("n1,n2,f10", 11, 2, 1, 2);
         dueFold("f12,f34,f34,n4,e", 20, 5, 2, 2);
         dueFold(BAD, NONE, NONE, NONE, NONE);
+        // Two loops beside one another are not open at once.
+        dueFold("f12,n1,n2", 11, 2, 0, 1);
         // What cannot be reached is no part of it.
         dueFold("e,n2,n1", 1, 0, 0, 0);
+        FlowFold x = Checks.read("n1,n2,f10");
+        x.aim(2, 1, 1);
+        due("as many signs", x.fold(0), 9);
+        due("as many ways", x.fold(1), 2);
+        due("no depths", x.fold(2), 0);
+        due("one loop", x.fold(3), 1);
+        x.be(2, 2);
+        due("three signs", x.fold(0), 3);
+        due("no ways", x.fold(1), 0);
+        due("no loop", x.fold(3), 0);
     }
 
     private static void dueFold(String text, int... answers) {
@@ -516,9 +553,8 @@ public final class PromiseTest {
         dueMend(LOOPED, 0, 0);
         // Without the FIRST of 0 the circle has one way in.
         dueMend(BAD, 1, 1);
-        // The FIRST of 0 leads to 1, the way to both circle nodes is over 1: bits 2 and 3 are those of 1.
+        // The FIRST of 0 is the only way to the circle of 2 and 3.
         dueMend("n1,f23,n3,n2", 1, 1);
-        dueMend("f01,f23,n3,n2", 1, 2);
         FlowFold x = Checks.read(BAD);
         x.mend(0);
         due("nothing is left out", x.count(2), 4);
@@ -533,16 +569,18 @@ public final class PromiseTest {
     }
 
     private static void mendOfMany() {
-        // Two circles, 3 with 4 and 5 with 6, each with two ways in; all is reached over both ends of 0.
-        FlowFold two = Checks.read("f12,f34,f56,n4,n3,n6,n5");
-        due("two", two.mend(0), 2);
-        // Bits 0 and 1 leave node 0 alone; 3 is the least row of two bits.
-        due("which two", two.mend(1), 3);
-        // One edge of node 0 left out leaves but one of the circles.
-        due("one is not enough", two.count(4), 2);
-        FlowFold three = Checks.read("n1,f23,n3,n2");
-        three.aim(2, 0, 0);
-        due("mended by an aim", three.mend(0), 0);
+        // Two circles, 3 with 4 and 5 with 6, each with two ways in: no one edge mends both, unless it is
+        // the only way to both of them.
+        dueMend("f12,f34,f56,n4,n3,n6,n5", 2, 3);
+        dueMend("n7,f34,f56,n4,n3,n6,n5,f12", 1, 1);
+        // Node 0 goes back to itself, and by its SECOND into a circle that 1 leads into too.
+        dueMend("f01,f23,n3,n2", 1, 2);
+        // Without either end of 0 the circle of 1 and 2 is left with two ways in, over 3 and over 4: the
+        // FIRST of 1, bit 2, is the least edge without which it is none.
+        dueMend("f34,n2,n1,f12,f21", 1, 4);
+        FlowFold aimed = Checks.read("n1,f23,n3,n2");
+        aimed.aim(2, 0, 0);
+        due("mended by an aim", aimed.mend(0), 0);
     }
 
     private static void mendRefused() {
@@ -667,6 +705,11 @@ public final class PromiseTest {
         due("restore() again", x.restore(), 3);
         due("seen again", x.count(8), 1);
         due("kind again", x.node(0, 0), 1);
+        x.forget();
+        x.see(2, 3, 2);
+        x.restore();
+        due("all of what was seen", x.node(0, 8), 2);
+        due("and of no other node", x.node(2, 8), 31);
         Checks.write(x, "q");
         x.graph();
         due("a refused graph is none", x.restore(), 3);
@@ -698,6 +741,11 @@ public final class PromiseTest {
         FlowFold self = Checks.read("f00");
         due("two back", self.count(3), 2);
         due("one head", self.count(5), 1);
+        x.be(0, 2);
+        int[] then = {6, 1, 0, 0, 0, 0, 0, 2, 1, 3, 1, 1};
+        for (int what = 0; what <= 11; what++) {
+            due("count(" + what + ") then", x.count(what), then[what]);
+        }
     }
 
     // Promise 23

@@ -110,8 +110,8 @@ public final class FlowFold {
             case 2: return jumps.seconds[node];
             case 3: return flow.placeOf(node);
             case 4: return flow.lordOf(node);
-            case 5: return (flow.heads >> node) & 1;
-            case 6: return (flow.merges >> node) & 1;
+            case 5: return flow.isHead(node) ? 1 : 0;
+            case 6: return flow.isMerge(node) ? 1 : 0;
             case 7: return flow.ruledBy(node);
             case 8: return seen.sortsOf(node);
             case 9: return seen.askFor(node);
@@ -520,15 +520,16 @@ public final class FlowFold {
         }
     }
 
-    /** What follows from where the EDGES lead; sets of NODES are held as bits. */
+    /** What follows from where the EDGES lead: sets of NODES as bits, an EDGE by twice its NODE and its end. */
     private static final class Flow {
         final Jumps jumps;
-        int leftOut;
-        int reached;
-        int size;
+        final int[] targets = new int[EDGES_MOST];
+        final int[] states = new int[EDGES_MOST];
         final int[] done = new int[NODES_MOST];
-        final int[] place = new int[NODES_MOST];
+        final int[] places = new int[NODES_MOST];
         final int[] rulers = new int[NODES_MOST];
+        int size;
+        int reached;
         int edges;
         int backs;
         int bads;
@@ -539,16 +540,15 @@ public final class FlowFold {
             this.jumps = jumps;
         }
 
-        /** Looks at the GRAPH without some EDGES, told as bits of twice the NODE and the end. */
+        /** Looks at the GRAPH without some EDGES, told as bits. */
         void look(int without) {
-            leftOut = without;
+            findTargets(without);
             reached = 0;
             size = 0;
-            Arrays.fill(place, NONE);
-            Arrays.fill(rulers, 0);
             doNode(0, 0);
+            Arrays.fill(places, NONE);
             for (int i = 0; i < size; i++) {
-                place[done[i]] = size - 1 - i;
+                places[done[i]] = size - 1 - i;
             }
             findRulers();
             weighEdges();
@@ -563,15 +563,23 @@ public final class FlowFold {
         }
 
         int placeOf(int node) {
-            return jumps.has(node) ? place[node] : NONE;
+            return jumps.has(node) ? places[node] : NONE;
         }
 
-        boolean isReached(int node) {
-            return jumps.has(node) && ((reached >> node) & 1) == 1;
+        int stateOf(int node, int which) {
+            return jumps.has(node) && isEnd(which) ? states[2 * node + which] : NONE;
+        }
+
+        boolean isHead(int node) {
+            return jumps.has(node) && ((heads >> node) & 1) == 1;
+        }
+
+        boolean isMerge(int node) {
+            return jumps.has(node) && ((merges >> node) & 1) == 1;
         }
 
         boolean rules(int one, int other) {
-            return isReached(one) && isReached(other) && ((rulers[other] >> one) & 1) == 1;
+            return jumps.has(one) && jumps.has(other) && ((rulers[other] >> one) & 1) == 1;
         }
 
         int ruledBy(int node) {
@@ -584,33 +592,26 @@ public final class FlowFold {
 
         // All that DOMINATE a NODE stand in one chain: its LORD has all of them but the NODE itself.
         int lordOf(int node) {
-            if (!isReached(node)) {
+            if (!jumps.has(node)) {
                 return NONE;
             }
             int others = rulers[node] & ~(1 << node);
             for (int lord = 0; lord < jumps.nodes; lord++) {
-                if (((others >> lord) & 1) == 1 && rulers[lord] == others) {
+                if (others != 0 && rulers[lord] == others) {
                     return lord;
                 }
             }
             return NONE;
         }
 
-        int stateOf(int node, int which) {
-            if (!isReached(node) || !leads(node, which)) {
-                return NONE;
+        private void findTargets(int without) {
+            for (int edge = 0; edge < EDGES_MOST; edge++) {
+                int node = edge / 2;
+                int target = jumps.target(node, edge % 2);
+                boolean leads = jumps.has(node) && jumps.has(target) && edge % 2 < endsOf(jumps.kinds[node])
+                    && ((without >> edge) & 1) == 0;
+                targets[edge] = leads ? target : NONE;
             }
-            int to = jumps.target(node, which);
-            if (placeOf(to) > placeOf(node)) {
-                return LEADS_ON;
-            }
-            return rules(to, node) ? IS_BACK : IS_BAD;
-        }
-
-        private boolean leads(int node, int which) {
-            return jumps.has(node) && which < endsOf(jumps.kinds[node])
-                && ((leftOut >> (2 * node + which)) & 1) == 0
-                && jumps.has(jumps.target(node, which));
         }
 
         private void doNode(int node, int level) {
@@ -618,9 +619,10 @@ public final class FlowFold {
                 return;
             }
             reached |= 1 << node;
-            for (int which = FIRST; which <= SECOND; which++) {
-                if (leads(node, which) && !isReached(jumps.target(node, which))) {
-                    doNode(jumps.target(node, which), level + 1);
+            for (int edge = 2 * node; edge <= 2 * node + 1; edge++) {
+                int target = targets[edge];
+                if (target != NONE && ((reached >> target) & 1) == 0) {
+                    doNode(target, level + 1);
                 }
             }
             done[size] = node;
@@ -628,13 +630,14 @@ public final class FlowFold {
         }
 
         // Starts from all and strikes those that a way in goes round, until nothing changes:
-        // each round strikes one of 64 bits at least.
+        // each round but the last one strikes one of 64 bits at least.
         private void findRulers() {
+            Arrays.fill(rulers, 0);
             for (int i = 0; i < size; i++) {
                 rulers[done[i]] = done[i] == 0 ? 1 : reached;
             }
             boolean changed = true;
-            for (int round = 0; changed && round < NODES_MOST * NODES_MOST; round++) {
+            for (int round = 0; changed && round <= NODES_MOST * NODES_MOST; round++) {
                 changed = false;
                 for (int i = size - 1; i >= 0; i--) {
                     changed |= strikeBehind(done[i], FIRST);
@@ -644,13 +647,13 @@ public final class FlowFold {
         }
 
         private boolean strikeBehind(int node, int which) {
-            if (!leads(node, which)) {
+            int target = targets[2 * node + which];
+            if (target == NONE) {
                 return false;
             }
-            int to = jumps.target(node, which);
-            int left = rulers[to] & (rulers[node] | (1 << to));
-            boolean changed = left != rulers[to];
-            rulers[to] = left;
+            int left = rulers[target] & (rulers[node] | (1 << target));
+            boolean changed = left != rulers[target];
+            rulers[target] = left;
             return changed;
         }
 
@@ -661,23 +664,26 @@ public final class FlowFold {
             heads = 0;
             merges = 0;
             int ledTo = 0;
-            for (int i = 0; i < size; i++) {
-                for (int which = FIRST; which <= SECOND; which++) {
-                    int state = stateOf(done[i], which);
-                    if (state == NONE) {
-                        continue;
-                    }
-                    edges++;
-                    int bit = 1 << jumps.target(done[i], which);
-                    if (state == LEADS_ON) {
-                        merges |= ledTo & bit;
-                        ledTo |= bit;
-                    } else if (state == IS_BACK) {
-                        backs++;
-                        heads |= bit;
-                    } else {
-                        bads++;
-                    }
+            for (int edge = 0; edge < EDGES_MOST; edge++) {
+                int node = edge / 2;
+                int target = targets[edge];
+                states[edge] = NONE;
+                if (target == NONE || ((reached >> node) & 1) == 0) {
+                    continue;
+                }
+                edges++;
+                int bit = 1 << target;
+                if (places[target] > places[node]) {
+                    states[edge] = LEADS_ON;
+                    merges |= ledTo & bit;
+                    ledTo |= bit;
+                } else if ((rulers[node] & bit) != 0) {
+                    states[edge] = IS_BACK;
+                    backs++;
+                    heads |= bit;
+                } else {
+                    states[edge] = IS_BAD;
+                    bads++;
                 }
             }
         }
@@ -715,7 +721,7 @@ public final class FlowFold {
             if (!jumps.has(node) || level >= NODES_MOST) {
                 return;
             }
-            boolean loops = ((flow.heads >> node) & 1) == 1;
+            boolean loops = flow.isHead(node);
             if (loops) {
                 putOpening(LOOP + node);
             }
@@ -732,24 +738,6 @@ public final class FlowFold {
                 }
             }
             put(node);
-            putBranches(node, level);
-            for (int place = 1; place < flow.size; place++) {
-                if (isBlockIn(node, flow.nodeAt(place))) {
-                    putClosing(BLOCK_END);
-                    putTree(flow.nodeAt(place), level + 1);
-                }
-            }
-        }
-
-        private boolean isBlockIn(int lord, int node) {
-            return isMerge(node) && flow.lordOf(node) == lord;
-        }
-
-        private boolean isMerge(int node) {
-            return jumps.has(node) && ((flow.merges >> node) & 1) == 1;
-        }
-
-        private void putBranches(int node, int level) {
             int ends = endsOf(jumps.kinds[node]);
             if (ends >= 1) {
                 putBranch(node, FIRST, level);
@@ -759,13 +747,23 @@ public final class FlowFold {
                 putBranch(node, SECOND, level);
                 put(BEHIND);
             }
+            for (int place = 1; place < flow.size; place++) {
+                if (isBlockIn(node, flow.nodeAt(place))) {
+                    putClosing(BLOCK_END);
+                    putTree(flow.nodeAt(place), level + 1);
+                }
+            }
+        }
+
+        private boolean isBlockIn(int lord, int node) {
+            return flow.isMerge(node) && flow.lordOf(node) == lord;
         }
 
         private void putBranch(int node, int which, int level) {
             int to = jumps.target(node, which);
             if (flow.stateOf(node, which) != LEADS_ON) {
                 putWayOut(OUT_TO_LOOP, depthOf(LOOP + to));
-            } else if (isMerge(to)) {
+            } else if (flow.isMerge(to)) {
                 putWayOut(OUT_OF_BLOCK, depthOf(BLOCK + to));
             } else {
                 putTree(to, level + 1);

@@ -387,6 +387,10 @@ public final class PromiseTest {
         FlowFold x = Checks.read("f12,e,e");
         due("be(0, 2)", x.be(0, 2), 1);
         due("a stop", x.count(1), 1);
+        due("1 is not reached", x.dominates(1, 1), 0);
+        due("nor over 1", x.dominates(0, 1), 0);
+        due("no lord of 1", x.node(1, 4), NONE);
+        due("nothing under 1", x.node(1, 7), 0);
         due("its ends are kept", x.node(0, 2), 2);
         due("be(0, 0)", x.be(0, 0), 2);
         due("one end", x.count(1), 2);
@@ -578,6 +582,8 @@ public final class PromiseTest {
         // Without either end of 0 the circle of 1 and 2 is left with two ways in, over 3 and over 4: the
         // FIRST of 1, bit 2, is the least edge without which it is none.
         dueMend("f34,n2,n1,f12,f21", 1, 4);
+        // The same with a stop as 1: bit 4, the FIRST of 2.
+        dueMend("f45,e,n3,n2,f23,f32", 1, 16);
         FlowFold aimed = Checks.read("n1,f23,n3,n2");
         aimed.aim(2, 0, 0);
         due("mended by an aim", aimed.mend(0), 0);

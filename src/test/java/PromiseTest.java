@@ -1,4 +1,4 @@
-/** One test or more for each promise of the document; what is due was worked out by hand from its words. */
+/** One test or more for each promise; what is due was worked out from the document's words, but where it says else. */
 public final class PromiseTest {
     private static final int NONE = -1, UNKNOWN = -101, OUTSIDE = -102, STATE = -103, FULL = -104;
     private static final int LOW = Integer.MIN_VALUE, HIGH = Integer.MAX_VALUE;
@@ -652,6 +652,7 @@ public final class PromiseTest {
             }
             due("the seed of " + times, x.drawn(times, 12, 2), seed);
         }
+        // These four are taken from the shared test, or follow from it.
         due("one that folds", x.drawn(1, 77, 0), 1);
         due("eight that fold", x.drawn(8, 77, 0), 8);
         due("their heads", x.drawn(8, 77, 1), 12);

@@ -1,7 +1,7 @@
 /** Each sentence of 'Terms', 2, that names a bound: of what is REACHED, of ORDER, LORDS, EDGES, the FOLD and MEND. */
 public final class FlowBoundsTest {
     public static void main(String[] args) throws Exception {
-        Sentences.run(FlowBoundsTest.class, 0, 0);
+        Sentences.run(FlowBoundsTest.class);
     }
 
     private static void nodes(Checks checks, String text, int what, int... answers) {
@@ -20,6 +20,17 @@ public final class FlowBoundsTest {
         checks.due("two that lead to one another are not", Checks.read("e,n2,n1").count(1), 1);
         nodes(checks, "n2,n3,e,n0", 3, 0, Checks.NONE, 1, Checks.NONE);
         nodes(checks, "n2,n3,e,n0", 7, 2, 0, 1, 0);
+    }
+
+    @Says(promise = 0, words = "The ORDER of these is the one in which they stand from the last to be DONE back")
+    static void lastDoneIsFirst(Checks checks) {
+        // DONE are 1, 2, 0; then 4, 3, 2, 1, 0; then 3, 1, 4, 2, 0.
+        nodes(checks, "f12,e,e", 3, 0, 2, 1);
+        nodes(checks, "n1,n2,n3,n4,e", 3, 0, 1, 2, 3, 4);
+        nodes(checks, "f12,n3,n4,e,e", 3, 0, 3, 1, 4, 2);
+        nodes(checks, "f11,f22,f33,f44,f55,f66,f77,f00", 3, 0, 1, 2, 3, 4, 5, 6, 7);
+        // 5 has no place, and takes none from the others.
+        nodes(checks, "f12,n3,n4,e,e,n0", 3, 0, 3, 1, 4, 2, Checks.NONE);
     }
 
     @Says(promise = 0, words = "to DO a NODE is to DO its FIRST (if that is an EDGE, and the NODE there was not begun yet),"
@@ -165,6 +176,18 @@ public final class FlowBoundsTest {
         // 1 is in the ORDER behind 2, so its BLOCK is the outer one.
         signs(checks, "f34,e,n1,f12,f12",
             201, 202, 0, 3, 601, 400, 600, 401, 400, 4, 601, 400, 600, 401, 401, 301, 2, 600, 301, 1);
+    }
+
+    @Says(promise = 0, words = "then for each of these V, from the first one in the ORDER to the last one, 301 and the"
+        + " TREE of V.")
+    static void blocksClosed(Checks checks) {
+        // Of none, of one, of two; 1, the last one in the ORDER, is a LOOP of its own.
+        signs(checks, "f12,e,e", 0, 1, 400, 2, 401);
+        signs(checks, "t12,n2,n2", 202, 0, 1, 600, 400, 600, 401, 301, 102, 2, 500, 300);
+        signs(checks, "f34,n1,n1,f12,f12", 201, 202, 0, 3, 601, 400, 600, 401, 400, 4, 601, 400, 600, 401, 401,
+            301, 2, 600, 301, 101, 1, 500, 300);
+        // One in the other: 3 is a VASSAL of 2, and 2 one of 0.
+        signs(checks, "f12,n2,f33,e", 202, 0, 1, 600, 400, 600, 401, 301, 203, 2, 600, 400, 600, 401, 301, 3);
     }
 
     @Says(promise = 0, words = "for a STOP nothing; for others the BRANCH to its FIRST, 400, that to its SECOND, 401")

@@ -8,7 +8,7 @@ public final class FoldCallsBoundsTest {
     private static final String BAD = "f12,n2,n1";
 
     public static void main(String[] args) throws Exception {
-        Sentences.run(FoldCallsBoundsTest.class, 12, 23);
+        Sentences.run(FoldCallsBoundsTest.class);
     }
 
     @Says(promise = 12, words = "A WALK by an INPUT (0 at least): how many visits.")
@@ -430,7 +430,7 @@ public final class FoldCallsBoundsTest {
     }
 
     @Says(promise = 23, words = "h is 1381, then for each of these numbers, in order, 31 times h, and it (as longs,"
-        + " wrapping)")
+        + " wrapping): of each NODE what node() tells for 0 to 9, edge() for 0 and 1")
     static void digestWraps(Checks checks) {
         String full = "e,e,e,e,e,e,e,e,~~~~~~~~~~~~~~~~~~";
         for (String text : new String[] {"e", "n0", BAD, "f11,f22,f33,f44,f55,f66,f77,f67", LOOPED}) {
@@ -448,7 +448,7 @@ public final class FoldCallsBoundsTest {
     }
 
     @Says(promise = 23, words = "with a GRAPH fold() for 0 to 3; all SIGNS of the FOLD; all visits of the latest WALK;"
-        + " letters of THE PAGE")
+        + " letters of THE PAGE; what count() tells for 0 to 11.")
     static void digestOfNothing(Checks checks) {
         long h = 1381;
         for (int what = 0; what <= 11; what++) {

@@ -3,7 +3,7 @@ public final class GraphTextBoundsTest {
     private static final String EIGHT_STOPS = "e,e,e,e,e,e,e,e";
 
     public static void main(String[] args) throws Exception {
-        Sentences.run(GraphTextBoundsTest.class, 0, 0);
+        Sentences.run(GraphTextBoundsTest.class);
     }
 
     private static void notRead(Checks checks, String text) {
@@ -233,15 +233,16 @@ public final class GraphTextBoundsTest {
 
     @Says(promise = 0, words = "a THIRD to its SECOND at its third, sixth visit, and so on, else to its FIRST")
     static void thirdEachThirdTime(Checks checks) {
-        FlowFold x = Checks.read("t12,n0,n0");
+        FlowFold x = Checks.read("t12,n3,n3,n0");
         for (int walk = 1; walk <= 2; walk++) {
+            // Ten visits of 0: what is left of one WALK would show in the next one.
             checks.due("walk(7)", x.walk(7), 30);
-            for (int time = 1; time <= 15; time++) {
-                checks.due("walk " + walk + ", behind visit " + time + " of 0", x.visit(2 * time - 1),
+            for (int time = 1; time <= 10; time++) {
+                checks.due("walk " + walk + ", behind visit " + time + " of 0", x.visit(3 * time - 2),
                     time % 3 == 0 ? 2 : 1);
             }
         }
-        // Three visits of 0, then the STOP; the next WALK counts from the first one again.
+        // Three visits of 0, then the STOP.
         FlowFold y = Checks.read("t01,e");
         checks.due("to the STOP", y.walk(0), 4);
         checks.due("to the STOP again", y.walk(0), 4);

@@ -5,7 +5,7 @@ public final class NodeCallsBoundsTest {
     private static final String LONGEST = "f01,x12,t23,f34,x45,t56,f67,x70";
 
     public static void main(String[] args) throws Exception {
-        Sentences.run(NodeCallsBoundsTest.class, 1, 11);
+        Sentences.run(NodeCallsBoundsTest.class);
     }
 
     @Says(promise = 1, words = "No GRAPH.")

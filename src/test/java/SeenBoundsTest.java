@@ -4,7 +4,7 @@ import java.util.function.IntSupplier;
 /** Each sentence of 'Terms', 3, that names a bound: of what is SEEN, of SORTS and ASK, DRAWS, the IMAGE and refusals. */
 public final class SeenBoundsTest {
     public static void main(String[] args) throws Exception {
-        Sentences.run(SeenBoundsTest.class, 0, 0);
+        Sentences.run(SeenBoundsTest.class);
     }
 
     private static void see(FlowFold x, int node, int... seen) {
@@ -77,7 +77,8 @@ public final class SeenBoundsTest {
         checks.due("of another KIND", x.node(1, 8), 27);
     }
 
-    @Says(promise = 0, words = "so that fewest of these are left at worst, by what it does (a FORK can do both)")
+    @Says(promise = 0, words = "ASK for a NODE: which visit (1 to 3) to look at next, so that fewest of these are left at"
+        + " worst, by what it does (a FORK can do both)")
     static void askByTheWorst(Checks checks) {
         // Of all, at the second visit 0, 1 and 4 may be left, at the first one 0, 1, 3 and 4.
         sorts(checks, 31, 2);
@@ -112,40 +113,73 @@ public final class SeenBoundsTest {
         int[] seeds = {0, 1, 2, 65535, 65536, 1 << 30, (1 << 30) - 1, Checks.HIGH - 1, Checks.HIGH};
         for (int seed : seeds) {
             BigInteger then = BigInteger.valueOf(seed);
-            for (int draw = 0; draw < 15; draw++) {
-                then = next(then);
+            for (int times = 1; times <= 8; times++) {
+                then = behindOneGraph(then);
+                checks.due("drawn(" + times + ", " + seed + ", 2)", new FlowFold().drawn(times, seed, 2),
+                    then.longValueExact());
             }
-            checks.due("drawn(1, " + seed + ", 2)", new FlowFold().drawn(1, seed, 2), then.longValueExact());
         }
     }
 
     @Says(promise = 0, words = "so many GRAPHS of five NODES, of each the KIND by a DRAW of 5, FIRST by a DRAW of 5, SECOND"
         + " by a DRAW of 5: how many can be FOLDED; how many HEADS all of them have together")
     static void graphsDrawn(Checks checks) {
-        int some = 0;
+        int unfolded = 0;
         for (int seed : new int[] {0, 1, 5, 9, 77, 123456789, Checks.HIGH}) {
             BigInteger then = BigInteger.valueOf(seed);
             int folded = 0;
             int heads = 0;
             for (int times = 1; times <= 8; times++) {
-                StringBuilder text = new StringBuilder();
-                for (int node = 0; node < 5; node++) {
-                    BigInteger kind = next(then);
-                    BigInteger first = next(kind);
-                    then = next(first);
-                    text.append(node == 0 ? "" : ",").append(nodeText(drawn(kind), drawn(first), drawn(then)));
-                }
-                FlowFold told = Checks.read(text.toString());
+                FlowFold told = Checks.read(graphText(then));
                 folded += told.fold(0) != Checks.NONE ? 1 : 0;
                 heads += told.count(5);
                 FlowFold x = new FlowFold();
                 checks.due("drawn(" + times + ", " + seed + ", 0)", x.drawn(times, seed, 0), folded);
                 checks.due("drawn(" + times + ", " + seed + ", 1)", x.drawn(times, seed, 1), heads);
-                checks.due("drawn(" + times + ", " + seed + ", 2)", x.drawn(times, seed, 2), then.longValueExact());
+                then = behindOneGraph(then);
             }
-            some += 8 - folded;
+            unfolded += 8 - folded;
         }
-        checks.due("some of them cannot be folded", some > 0 ? 1 : 0, 1);
+        checks.due("some of them cannot be folded", unfolded > 0 ? 1 : 0, 1);
+    }
+
+    @Says(promise = 0, words = "then that by 65536 (rounded down), its rest.")
+    static void drawsRoundedDown(Checks checks) {
+        BigInteger ring = BigInteger.ONE.shiftLeft(31);
+        BigInteger back = BigInteger.valueOf(1103515245).modInverse(ring);
+        // The SEED behind the first DRAW stands at a bound of what is rounded down.
+        for (int quotient = 0; quotient < 32768; quotient += 1 + quotient / 3) {
+            for (int rest : new int[] {0, 1, 32767, 32768, 65535}) {
+                BigInteger first = BigInteger.valueOf(65536L * quotient + rest);
+                BigInteger seed = first.subtract(BigInteger.valueOf(12345)).multiply(back).mod(ring);
+                FlowFold told = Checks.read(graphText(seed));
+                checks.due("the KIND of " + first, told.node(0, 0), quotient % 5);
+                FlowFold x = new FlowFold();
+                int number = seed.intValueExact();
+                checks.due("drawn(1, " + number + ", 0)", x.drawn(1, number, 0), told.fold(0) != Checks.NONE ? 1 : 0);
+                checks.due("drawn(1, " + number + ", 1)", x.drawn(1, number, 1), told.count(5));
+            }
+        }
+    }
+
+    private static BigInteger behindOneGraph(BigInteger seed) {
+        BigInteger then = seed;
+        for (int draw = 0; draw < 15; draw++) {
+            then = next(then);
+        }
+        return then;
+    }
+
+    private static String graphText(BigInteger seed) {
+        StringBuilder text = new StringBuilder();
+        BigInteger then = seed;
+        for (int node = 0; node < 5; node++) {
+            BigInteger kind = next(then);
+            BigInteger first = next(kind);
+            then = next(first);
+            text.append(node == 0 ? "" : ",").append(nodeText(drawn(kind), drawn(first), drawn(then)));
+        }
+        return text.toString();
     }
 
     private static int drawn(BigInteger seed) {

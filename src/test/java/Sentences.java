@@ -1,52 +1,48 @@
 import java.io.IOException;
+import java.lang.reflect.InvocationTargetException;
 import java.lang.reflect.Method;
-import java.nio.file.Files;
-import java.nio.file.Path;
 import java.util.ArrayList;
 import java.util.Comparator;
 import java.util.List;
-import java.util.Set;
-import java.util.TreeSet;
 
 /** Runs each test of a class that names a sentence of the document, and looks whether the sentence stands there. */
 final class Sentences {
-    private static final Path DOCUMENT = Path.of("../shared/DOC.md");
-    private static final int PROMISES = 23;
-
     private Sentences() {
     }
 
-    /** Each promise from the first to the last one must have a test among those of the class. */
-    static void run(Class<?> tests, int first, int last) throws IOException, ReflectiveOperationException {
-        String document = Files.readString(DOCUMENT).replaceAll("\\s+", " ");
-        Set<Integer> missing = new TreeSet<>();
-        for (int promise = first; promise <= last; promise++) {
-            missing.add(promise);
-        }
+    static void run(Class<?> tests) throws IOException, IllegalAccessException {
+        Document document = new Document();
         int sentences = 0;
         int broken = 0;
         for (Method test : testsOf(tests)) {
             Says says = test.getAnnotation(Says.class);
             Checks checks = new Checks(tests.getSimpleName() + "." + test.getName() + " (" + says.words() + ")");
-            test.invoke(null, checks);
-            boolean stands = section(document, says.promise()).contains(says.words());
+            boolean ended = ends(test, checks);
+            boolean stands = document.placeOf(says.promise(), says.words()) >= 0;
             if (!stands) {
                 System.out.println("not in the document, promise " + says.promise() + ": " + says.words());
             }
             sentences++;
-            broken += stands && checks.hold() ? 0 : 1;
-            missing.remove(says.promise());
+            broken += ended && stands && checks.hold() ? 0 : 1;
         }
         System.out.println(tests.getSimpleName() + ": " + sentences + " sentences, " + broken + " broken");
-        if (!missing.isEmpty()) {
-            System.out.println(tests.getSimpleName() + ": no test for the promises " + missing);
-        }
-        if (broken != 0 || sentences == 0 || !missing.isEmpty()) {
+        if (broken != 0 || sentences == 0) {
             System.exit(1);
         }
     }
 
-    private static List<Method> testsOf(Class<?> tests) {
+    // One that throws must not keep the others from being looked at.
+    private static boolean ends(Method test, Checks checks) throws IllegalAccessException {
+        try {
+            test.invoke(null, checks);
+            return true;
+        } catch (InvocationTargetException thrown) {
+            System.out.println(test.getName() + " threw " + thrown.getCause());
+            return false;
+        }
+    }
+
+    static List<Method> testsOf(Class<?> tests) {
         List<Method> found = new ArrayList<>();
         for (Method method : tests.getDeclaredMethods()) {
             if (method.isAnnotationPresent(Says.class)) {
@@ -55,11 +51,5 @@ final class Sentences {
         }
         found.sort(Comparator.comparing(Method::getName));
         return found;
-    }
-
-    private static String section(String document, int promise) {
-        int start = promise == 0 ? 0 : document.indexOf("## Promise " + promise + ":");
-        String end = promise == PROMISES ? "## Not promised" : "## Promise " + (promise + 1) + ":";
-        return start < 0 || document.indexOf(end) < start ? "" : document.substring(start, document.indexOf(end));
     }
 }
